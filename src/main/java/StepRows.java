@@ -56,9 +56,11 @@ public final class StepRows {
     private static final int EXPRESSION = 1;
     private static final int STATEMENT = 2;
     private static final int STATEMENT_OR_NONE = 3;
-    private static final int BELOW_8 = 4;
-    private static final int BELOW_16 = 5;
+    private static final int NO_OF_OUTPUT = 4;
+    private static final int NO_OF_VALUE = 5;
+    private static final int NO_OF_NAME = 6;
     private static final int PARTS = 3;
+    /** What the parts of each kind of node must be, a line for each kind from 0 to 21. */
     private static final int[] WANTED = {
         EXPRESSION, EXPRESSION, NOT_NAMED,
         EXPRESSION, EXPRESSION, NOT_NAMED,
@@ -70,17 +72,17 @@ public final class StepRows {
         NOT_NAMED, NOT_NAMED, NOT_NAMED,
         NOT_NAMED, NOT_NAMED, NOT_NAMED,
         NOT_NAMED, NOT_NAMED, NOT_NAMED,
-        BELOW_8, EXPRESSION, NOT_NAMED,
-        BELOW_16, EXPRESSION, NOT_NAMED,
+        NO_OF_OUTPUT, EXPRESSION, NOT_NAMED,
+        NO_OF_VALUE, EXPRESSION, NOT_NAMED,
         EXPRESSION, NOT_NAMED, NOT_NAMED,
-        BELOW_8, EXPRESSION, EXPRESSION,
+        NO_OF_OUTPUT, EXPRESSION, EXPRESSION,
         STATEMENT, STATEMENT, NOT_NAMED,
         EXPRESSION, STATEMENT, STATEMENT_OR_NONE,
         EXPRESSION, STATEMENT, STATEMENT,
         EXPRESSION, STATEMENT, NOT_NAMED,
         STATEMENT, STATEMENT, NOT_NAMED,
-        BELOW_8, NOT_NAMED, NOT_NAMED,
-        BELOW_8, STATEMENT, NOT_NAMED,
+        NO_OF_NAME, NOT_NAMED, NOT_NAMED,
+        NO_OF_NAME, STATEMENT, NOT_NAMED,
         STATEMENT, NOT_NAMED, NOT_NAMED,
     };
 
@@ -98,7 +100,7 @@ public final class StepRows {
     private static final int FAULT_TOO_MUCH = 4;
 
     /** What a walker's small function answers when its branch does no more in this second. */
-    private static final int STANDS = Integer.MIN_VALUE;
+    private static final int STANDS = -MANY;
 
     private final Nodes nodes;
     private final Layout layout;
@@ -231,7 +233,7 @@ public final class StepRows {
     }
 
     public boolean shared(int a, int b) {
-        return isProgram(a) && isProgram(b) && programs[a] == programs[b];
+        return isProgram(a) && isProgram(b) && programs[a].program == programs[b].program;
     }
 
     public int table(int i) throws IndexOutOfBoundsException {
@@ -283,14 +285,14 @@ public final class StepRows {
             if (leafKind < 0 || leafKind > VALUE - NUMBER) {
                 return NONE;
             }
-            int most = leafKind + NUMBER == SIGNAL ? SIGNALS : VALUES;
-            if (leafKind + NUMBER != NUMBER && (number < 0 || number >= most)) {
+            int newKind = NUMBER + leafKind;
+            if (newKind != NUMBER && (number < 0 || number >= (newKind == SIGNAL ? SIGNALS : VALUES))) {
                 return NONE;
             }
             if (count >= MOST_NODES) {
                 return FULL;
             }
-            kind[count] = leafKind + NUMBER;
+            kind[count] = newKind;
             leafNumber[count] = number;
             size[count] = 1;
             count++;
@@ -365,10 +367,12 @@ public final class StepRows {
                     return isStatement(part);
                 case STATEMENT_OR_NONE:
                     return part == NONE || isStatement(part);
-                case BELOW_8:
-                    return part >= 0 && part < 8;
-                case BELOW_16:
-                    return part >= 0 && part < 16;
+                case NO_OF_OUTPUT:
+                    return part >= 0 && part < OUTPUTS;
+                case NO_OF_NAME:
+                    return part >= 0 && part < NAMES;
+                case NO_OF_VALUE:
+                    return part >= 0 && part < VALUES;
                 default:
                     return true;
             }
@@ -398,6 +402,7 @@ public final class StepRows {
         final int[] phases;
         int count;
         int phaseCount;
+        /** The first program that has these rows. */
         int program;
 
         Rows(int places, int mostPhases) {
@@ -809,8 +814,9 @@ public final class StepRows {
     }
 
     /**
-     * Takes the run through a second: first the limits, then the branches. The small functions answer what comes next: a place that
-     * begins, ~p when p's part is over, or STANDS; then the branch at nextLeaf goes on.
+     * Takes the run through a second: first the limits, then the branches. Its small functions answer
+     * what comes next: a place that begins, ~p when p's part is over, or STANDS, and then the branch
+     * at nextLeaf goes on.
      */
     private static final class Walker {
         private final Run run;
@@ -1068,9 +1074,10 @@ public final class StepRows {
                 return endRun();
             }
             int frame = around;
+            int place = frames.place[frame];
             around = frames.up[frame];
             frames.remove(frame);
-            return run.rows.then[frames.place[frame]];
+            return run.rows.then[place];
         }
 
         private int endTurn(int place) {
@@ -1119,12 +1126,12 @@ public final class StepRows {
             for (int rank = last - rows.size[place] + 1; rank <= last && run.goesOn(); rank++) {
                 int at = rows.byRank[rank];
                 int kind = rows.kind[at];
-                if (kind >= NUMBER) {
+                if (kind >= NUMBER && height < MOST_PLACES) {
                     stack[height] = leafNumber(kind, rows.number[at]);
                     height++;
-                } else if (kind == LOOK_UP) {
+                } else if (kind == LOOK_UP && height > 0) {
                     stack[height - 1] = lookUp(stack[height - 1], at);
-                } else {
+                } else if (height > 1) {
                     height--;
                     stack[height - 1] = combine(at, stack[height - 1], stack[height]);
                 }
@@ -1171,6 +1178,7 @@ public final class StepRows {
                     return divide(place, a, b);
                 case LESS:
                     return a < b ? 1 : 0;
+                case EQUAL:
                 default:
                     return a == b ? 1 : 0;
             }

@@ -46,6 +46,9 @@ public final class ModelTest {
         for (int k = 0; k < programs; k++) {
             make(pick(3) == 0 ? phases() : statement(2 + pick(5)));
         }
+        for (int k = 0; k < 3; k++) {
+            tell(k, 1 + pick(9));
+        }
         start(pick(programs));
         while (calls < CALLS && due.wrong() == 0) {
             act();
@@ -77,6 +80,10 @@ public final class ModelTest {
         return want;
     }
 
+    private void tell(int k, long v) {
+        is("signal(" + k + ", " + v + ")", x.signal(k, v) ? 1 : 0, m.signal(k, v) ? 1 : 0);
+    }
+
     private void start(int p) {
         is("start(" + p + ")", x.start(p), m.start(p));
     }
@@ -103,6 +110,10 @@ public final class ModelTest {
     }
 
     private void act() {
+        if (m.tick(0) != 1 && pick(2) == 0) {
+            start(pick(6) - 1);
+            return;
+        }
         switch (pick(16)) {
             case 0:
                 start(pick(6) - 1);
@@ -125,7 +136,7 @@ public final class ModelTest {
             case 5: {
                 int k = pick(4) == 0 ? pick(18) - 1 : pick(3);
                 long v = number();
-                is("signal(" + k + ", " + v + ")", x.signal(k, v) ? 1 : 0, m.signal(k, v) ? 1 : 0);
+                tell(k, pick(3) == 0 ? 1 : v);
                 break;
             }
             case 6:
@@ -206,6 +217,20 @@ public final class ModelTest {
         return node(what, expression(depth - 1), expression(depth - 1), pick(9));
     }
 
+    /** Mostly a signal: those are told anew while the run goes on. */
+    private int guard() {
+        switch (pick(6)) {
+            case 0:
+                return expression(1);
+            case 1:
+                return node(4, leaf(2, pick(3)), leaf(0, 1 + pick(20)), 0);
+            case 2:
+                return node(3, leaf(0, 6), leaf(1, pick(3)), 0);
+            default:
+                return leaf(1, pick(3));
+        }
+    }
+
     private int seconds() {
         return pick(6) == 0 ? expression(1) : leaf(0, pick(5));
     }
@@ -224,7 +249,7 @@ public final class ModelTest {
                 return node(15, expression(1), statement(depth - 1), pick(2) == 0 ? -1 : statement(depth - 1));
             case 5:
             case 6:
-                return node(16, expression(1), statement(depth - 1), statement(depth - 2));
+                return node(16, guard(), statement(depth - 1), statement(depth - 2));
             case 7:
                 return node(17, pick(3) == 0 ? leaf(0, pick(70)) : expression(1), statement(depth - 1), -5);
             case 8:
@@ -245,7 +270,7 @@ public final class ModelTest {
         int name = pick(2);
         int body = statement(depth - 2);
         int again = node(19, name, 0, 0);
-        switch (pick(6)) {
+        switch (pick(12)) {
             case 0:
                 body = node(14, body, again, 0);
                 break;
@@ -256,7 +281,7 @@ public final class ModelTest {
                 body = node(14, body, node(18, simple(), again, 0), 0);
                 break;
             case 3:
-                body = node(14, node(16, expression(1), node(18, body, again, 0), simple()), simple(), 0);
+                body = node(14, node(16, guard(), node(18, body, again, 0), simple()), simple(), 0);
                 break;
             default:
                 break;

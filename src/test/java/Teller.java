@@ -67,7 +67,7 @@ final class Teller {
         return sure(x.node(12, e, -77, -77));
     }
 
-    int await(long seconds) {
+    int pause(long seconds) {
         return await(num(seconds));
     }
 
