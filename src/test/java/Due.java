@@ -1,6 +1,7 @@
 /** Counts and prints the answers that are not the ones that are due. */
 final class Due {
     private final String name;
+    private String about = "";
     private int wrong;
     private int asked;
 
@@ -8,12 +9,17 @@ final class Due {
         this.name = name;
     }
 
+    /** What the answers from now on stand for. */
+    void about(String what) {
+        about = what + ": ";
+    }
+
     void is(String call, long got, long want) {
         asked++;
         if (got != want) {
             wrong++;
             if (wrong <= 50) {
-                System.out.println(name + ": " + call + " answered " + got + ", due is " + want);
+                System.out.println(name + ": " + about + call + " answered " + got + ", due is " + want);
             }
         }
     }

@@ -174,19 +174,10 @@ public final class FaultTest {
         alarm(x, 0, 3, 7);
     }
 
-    private static int repeats(Teller t, int times, int inner) {
-        int all = inner;
-        int one = t.num(1);
-        for (int k = 0; k < times; k++) {
-            all = t.repeat(one, all);
-        }
-        return all;
-    }
-
     private static void aroundOneAnother() {
         StepRows x = new StepRows();
         Teller t = new Teller(x);
-        int sixty = repeats(t, 60, t.row(t.count(0), t.phase(t.when(t.num(1), t.pause(1), -1)), t.count(0)));
+        int sixty = t.repeats(60, t.row(t.count(0), t.phase(t.when(t.num(1), t.pause(1), -1)), t.count(0)));
         t.run(sixty);
         due.is("60 are fine", x.tick(1), 1);
         due.is("tick(1)", x.tick(1), 0);
@@ -198,9 +189,9 @@ public final class FaultTest {
         t.run(t.side(t.pause(1), sixty));
         alarm(x, 0, 4, 1 + 2 + 118);
         int wait = t.pause(1);
-        t.run(repeats(t, 59, t.side(wait, wait)));
+        t.run(t.repeats(59, t.side(wait, wait)));
         due.is("59 and a SIDE", x.tick(1), 1);
-        t.run(repeats(t, 60, t.side(wait, wait)));
+        t.run(t.repeats(60, t.side(wait, wait)));
         alarm(x, 0, 4, 120);
     }
 
@@ -220,11 +211,11 @@ public final class FaultTest {
         due.is("60 LIMITs that do b", x.tick(1), 1);
         t.run(t.limit(one, doesB, wait));
         alarm(x, 0, 4, 120);
-        t.run(repeats(t, 59, doesC));
+        t.run(t.repeats(59, doesC));
         due.is("those that do c are not around", x.tick(1), 1);
         StepRows y = new StepRows();
         Teller u = new Teller(y);
-        int late = repeats(u, 60, u.pause(1));
+        int late = u.repeats(60, u.pause(1));
         y.signal(0, 1);
         u.run(u.limit(u.sig(0), u.pause(9), late));
         y.tick(1);
@@ -249,15 +240,15 @@ public final class FaultTest {
         StepRows x = new StepRows();
         Teller t = new Teller(x);
         int division = t.div(t.num(1), t.num(0));
-        t.run(repeats(t, 60, t.limit(division, t.pause(1), t.pause(1))));
+        t.run(t.repeats(60, t.limit(division, t.pause(1), t.pause(1))));
         alarm(x, 0, 1, 121);
         StepRows y = new StepRows();
         Teller u = new Teller(y);
-        u.run(repeats(u, 60, u.call(0)));
+        u.run(u.repeats(60, u.call(0)));
         alarm(y, 0, 3, 120);
-        u.run(repeats(u, 60, u.repeat(u.num(0), u.count(0))));
+        u.run(u.repeats(60, u.repeat(u.num(0), u.count(0))));
         due.is("REPEAT of 0 does nothing", y.tick(1), 0);
-        u.run(repeats(u, 60, u.limit(u.num(0), u.count(0), u.count(1))));
+        u.run(u.repeats(60, u.limit(u.num(0), u.count(0), u.count(1))));
         due.is("LIMIT that does c", y.tick(1), 0);
         due.is("value(1)", y.value(1), 1);
     }

@@ -264,9 +264,9 @@ public final class RunTest {
         StepRows x = new StepRows();
         Teller t = new Teller(x);
         // value 0 gets a digit from each statement, so that it tells their order
-        int left = t.row(digit(t, 1), t.pause(1), digit(t, 3), t.pause(2), digit(t, 6));
-        int right = t.row(digit(t, 2), t.pause(1), digit(t, 4), t.pause(1), digit(t, 5));
-        t.run(t.row(t.side(left, right), digit(t, 7)));
+        int left = t.row(t.mark(1), t.pause(1), t.mark(3), t.pause(2), t.mark(6));
+        int right = t.row(t.mark(2), t.pause(1), t.mark(4), t.pause(1), t.mark(5));
+        t.run(t.row(t.side(left, right), t.mark(7)));
         x.tick(1);
         due.is("second 0", x.value(0), 12);
         due.is("two stand", x.step(1) > x.step(0) && x.step(0) > 0, true);
@@ -279,22 +279,18 @@ public final class RunTest {
         due.is("the left one stands", x.step(0) > 0, true);
         due.is("tick(1)", x.tick(1), 0);
         due.is("second 3", x.value(0), 1234567);
-        t.run(t.row(t.side(digit(t, 1), digit(t, 2)), digit(t, 3)));
+        t.run(t.row(t.side(t.mark(1), t.mark(2)), t.mark(3)));
         due.is("both over at once", x.tick(1), 0);
         due.is("value(0)", x.value(0), 123);
-    }
-
-    private static int digit(Teller t, int d) {
-        return t.let(0, t.add(t.op(2, t.val(0), t.num(10)), t.num(d)));
     }
 
     /** What follows an inner SIDE comes before the outer one's right branch. */
     private static void sidesInSides() {
         StepRows x = new StepRows();
         Teller t = new Teller(x);
-        int inner = t.row(t.side(t.row(t.pause(1), digit(t, 1)), t.row(t.pause(1), digit(t, 2))), digit(t, 3),
+        int inner = t.row(t.side(t.row(t.pause(1), t.mark(1)), t.row(t.pause(1), t.mark(2))), t.mark(3),
             t.pause(1));
-        int outer = t.row(t.side(inner, t.row(t.pause(1), digit(t, 4), t.pause(5))), digit(t, 9));
+        int outer = t.row(t.side(inner, t.row(t.pause(1), t.mark(4), t.pause(5))), t.mark(9));
         t.run(outer);
         x.tick(1);
         due.is("value(0)", x.value(0), 0);

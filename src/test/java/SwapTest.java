@@ -18,10 +18,6 @@ public final class SwapTest {
         due.end();
     }
 
-    private static int mark(Teller t, int digit) {
-        return t.let(0, t.add(t.op(2, t.val(0), t.num(10)), t.num(digit)));
-    }
-
     private static void refused() {
         StepRows x = new StepRows();
         Teller t = new Teller(x);
@@ -71,10 +67,10 @@ public final class SwapTest {
     private static void atTheEndOfAPhase() {
         StepRows x = new StepRows();
         Teller t = new Teller(x);
-        int a = t.make(t.row(mark(t, 1), t.phase(t.row(t.pause(3), t.out(1, t.num(6)))), mark(t, 2),
-            t.phase(t.pause(2)), mark(t, 3)));
-        int b = t.make(t.row(mark(t, 4), t.phase(mark(t, 5)), mark(t, 6), t.phase(t.row(mark(t, 7), t.pause(2))),
-            mark(t, 8)));
+        int a = t.make(t.row(t.mark(1), t.phase(t.row(t.pause(3), t.out(1, t.num(6)))), t.mark(2),
+            t.phase(t.pause(2)), t.mark(3)));
+        int b = t.make(t.row(t.mark(4), t.phase(t.mark(5)), t.mark(6), t.phase(t.row(t.mark(7), t.pause(2))),
+            t.mark(8)));
         x.start(a);
         x.tick(1);
         due.is("swap", x.swap(b), 0);
@@ -160,8 +156,8 @@ public final class SwapTest {
         StepRows x = new StepRows();
         Teller t = new Teller(x);
         int p = t.phase(t.pause(1));
-        int a = t.make(t.row(p, mark(t, 1), p, mark(t, 2), p, mark(t, 3), p, mark(t, 4)));
-        int b = t.make(t.row(t.row(t.row(p, mark(t, 5)), t.row(p, mark(t, 6))), t.row(t.row(p, mark(t, 7)), p)));
+        int a = t.make(t.row(p, t.mark(1), p, t.mark(2), p, t.mark(3), p, t.mark(4)));
+        int b = t.make(t.row(t.row(t.row(p, t.mark(5)), t.row(p, t.mark(6))), t.row(t.row(p, t.mark(7)), p)));
         x.start(a);
         x.swap(b);
         x.tick(2);
@@ -249,7 +245,7 @@ public final class SwapTest {
         StepRows x = new StepRows();
         Teller t = new Teller(x);
         int p = t.phase(t.pause(1));
-        int a = t.make(t.row(p, mark(t, 1), p, mark(t, 2), t.phase(mark(t, 3)), mark(t, 4)));
+        int a = t.make(t.row(p, t.mark(1), p, t.mark(2), t.phase(t.mark(3)), t.mark(4)));
         x.start(a);
         x.swap(a);
         x.tick(2);

@@ -2,12 +2,15 @@
 final class Teller {
     static final int NONE = StepRows.NONE;
     final StepRows x;
+    /** Calls of the object: the document promises nothing behind the 512th. */
+    int calls;
 
     Teller(StepRows x) {
         this.x = x;
     }
 
     private int sure(int number) {
+        calls++;
         if (number < 0) {
             throw new IllegalStateException("a test told what was refused: " + number);
         }
@@ -42,6 +45,10 @@ final class Teller {
         return op(3, a, b);
     }
 
+    int times(int a, int b) {
+        return op(2, a, b);
+    }
+
     int less(int a, int b) {
         return op(4, a, b);
     }
@@ -61,6 +68,11 @@ final class Teller {
     /** value k becomes value k + 1 */
     int count(int k) {
         return let(k, add(val(k), num(1)));
+    }
+
+    /** value 0 gets one more digit, so that it tells in which order statements were done */
+    int mark(int digit) {
+        return let(0, add(times(val(0), num(10)), num(digit)));
     }
 
     int await(int e) {
@@ -115,8 +127,28 @@ final class Teller {
         return sure(x.make(root));
     }
 
+    /** So many REPEATs of 1 around a statement: it comes to stand at place 2 * times. */
+    int repeats(int times, int inner) {
+        int all = inner;
+        int one = num(1);
+        for (int k = 0; k < times; k++) {
+            all = repeat(one, all);
+        }
+        return all;
+    }
+
+    /** So many SIDEs in the right branch of one another, each with the same left one, and at last the inner one. */
+    int sides(int times, int left, int inner) {
+        int all = inner;
+        for (int k = 0; k < times; k++) {
+            all = side(left, all);
+        }
+        return all;
+    }
+
     /** Makes the program and starts a run of it. */
     void run(int root) {
+        calls++;
         if (x.start(make(root)) != 0) {
             throw new IllegalStateException("a program that was made does not start");
         }
