@@ -586,6 +586,18 @@ final class SaveBounds {
         q.told(3, 0);
         q.start(a);
         q.told(3, 0);
+        // a run that ends or is held before a phase is over: nothing has let the swap wait no more
+        int without = t.make(t.row(t.pause(1), t.when(t.sig(0), t.call(0), NONE)));
+        for (int fault = 0; fault <= 1; fault++) {
+            q.signal(0, fault);
+            q.start(without);
+            q.swap(a, 0);
+            q.tick(2, fault == 1 ? 2 : 0);
+            q.told(3, 1);
+            q.told(2, without);
+        }
+        q.start(without);
+        q.told(3, 0);
     }
 
     private void toldWithoutARun() {
