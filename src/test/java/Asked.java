@@ -15,11 +15,15 @@ final class Asked {
         t = new Teller(x);
     }
 
+    int calls() {
+        return calls + t.calls;
+    }
+
     private void is(String call, long got, long want) {
         calls++;
         due.is(call, got, want);
-        if (calls + t.calls > MOST_CALLS) {
-            due.is("calls of one object", calls + t.calls, MOST_CALLS);
+        if (calls() > MOST_CALLS) {
+            due.is("calls of one object", calls(), MOST_CALLS);
         }
     }
 

@@ -1,14 +1,21 @@
 import java.util.Random;
 
-/** Random runs of calls, each answer held against the model's. */
+/** Random runs of calls, each answer held against the model's; no object is asked more than 512 of them. */
 public final class ModelTest {
     private static final int CALLS = 512;
+    /** Kept for a look at all of the run at the end. */
+    private static final int LAST_LOOK = 60;
+
+    private static final class Enough extends RuntimeException {
+        private static final long serialVersionUID = 1;
+    }
 
     private final Random random;
     private final StepRows x = new StepRows();
     private final Model m = new Model();
     private final Due due;
     private final String name;
+    private int most = CALLS - LAST_LOOK;
     private int calls;
     private int told;
 
@@ -19,7 +26,7 @@ public final class ModelTest {
     }
 
     public static void main(String[] args) {
-        int runs = args.length > 0 ? Integer.parseInt(args[0]) : 6000;
+        int runs = args.length > 0 ? Integer.parseInt(args[0]) : 30000;
         long first = args.length > 1 ? Long.parseLong(args[1]) : 1;
         Due due = new Due("ModelTest");
         for (long seed = first; seed < first + runs && due.wrong() == 0; seed++) {
@@ -42,25 +49,42 @@ public final class ModelTest {
     }
 
     private void go() {
+        try {
+            callUntilEnough();
+        } catch (Enough e) {
+            most = CALLS;
+            lookAtAll();
+        }
+    }
+
+    private void callUntilEnough() {
         int programs = 1 + pick(4);
         for (int k = 0; k < programs; k++) {
-            make(pick(3) == 0 ? phases() : statement(2 + pick(5)));
+            make(pick(3) == 0 ? phases() : statement(2 + pick(4)));
         }
         for (int k = 0; k < 3; k++) {
             tell(k, 1 + pick(9));
         }
         start(pick(programs));
-        while (calls < CALLS && due.wrong() == 0) {
+        while (due.wrong() == 0) {
             act();
         }
     }
 
-    private void is(String call, long got, long want) {
+    /** Counts a call before it is asked. */
+    private void ask() {
+        if (calls >= most) {
+            throw new Enough();
+        }
         calls++;
+    }
+
+    private void is(String call, long got, long want) {
         due.is(name + calls + " " + call, got, want);
     }
 
     private int leaf(int kind, long v) {
+        ask();
         int want = m.leaf(kind, v);
         is("leaf(" + kind + ", " + v + ")", x.leaf(kind, v), want);
         told = Math.max(told, want + 1);
@@ -68,6 +92,7 @@ public final class ModelTest {
     }
 
     private int node(int what, int a, int b, int c) {
+        ask();
         int want = m.node(what, a, b, c);
         is("node(" + what + ", " + a + ", " + b + ", " + c + ")", x.node(what, a, b, c), want);
         told = Math.max(told, want + 1);
@@ -75,38 +100,118 @@ public final class ModelTest {
     }
 
     private int make(int root) {
+        ask();
         int want = m.make(root);
         is("make(" + root + ")", x.make(root), want);
         return want;
     }
 
     private void tell(int k, long v) {
+        ask();
         is("signal(" + k + ", " + v + ")", x.signal(k, v) ? 1 : 0, m.signal(k, v) ? 1 : 0);
     }
 
     private void start(int p) {
+        ask();
         is("start(" + p + ")", x.start(p), m.start(p));
     }
 
-    private void tick(int s) {
-        is("tick(" + s + ")", x.tick(s), m.tick(s));
-        for (int k = -1; k <= 16; k++) {
-            due.is(name + calls + " output(" + k + ")", x.output(k), m.output(k));
-            due.is(name + calls + " value(" + k + ")", x.value(k), m.value(k));
-        }
-        look();
+    private void swap(int p) {
+        ask();
+        is("swap(" + p + ")", x.swap(p), m.swap(p));
     }
 
-    /** What these answer does not change the run, so they are not counted among the calls. */
+    private void save() {
+        ask();
+        is("save()", x.save(), m.save());
+    }
+
+    private void back(int s) {
+        ask();
+        is("back(" + s + ")", x.back(s) ? 1 : 0, m.back(s) ? 1 : 0);
+    }
+
+    private void shared(int a, int b) {
+        ask();
+        is("shared(" + a + ", " + b + ")", x.shared(a, b) ? 1 : 0, m.shared(a, b) ? 1 : 0);
+    }
+
+    private void tick(int s) {
+        ask();
+        is("tick(" + s + ")", x.tick(s), m.tick(s));
+    }
+
+    private void output(int k) {
+        ask();
+        is("output(" + k + ")", x.output(k), m.output(k));
+    }
+
+    private void value(int k) {
+        ask();
+        is("value(" + k + ")", x.value(k), m.value(k));
+    }
+
+    private void step(int k) {
+        ask();
+        is("step(" + k + ")", x.step(k), m.step(k));
+    }
+
+    private void tells(int what) {
+        ask();
+        is("told(" + what + ")", x.told(what), m.told(what));
+    }
+
+    private void alarm(int k, int what) {
+        ask();
+        is("alarm(" + k + ", " + what + ")", x.alarm(k, what), m.alarm(k, what));
+    }
+
+    private void table(int i) {
+        ask();
+        is("table(" + i + ")", x.table(i), Model.TABLE[i]);
+    }
+
+    /** Some of what can be asked of a run: all of it after each tick would leave few calls for the run. */
     private void look() {
-        for (int k = -1; k <= 52; k++) {
-            due.is(name + calls + " step(" + k + ")", x.step(k), m.step(k));
+        for (int k = pick(4); k >= 0; k--) {
+            switch (pick(6)) {
+                case 0:
+                    output(pick(8) == 0 ? pick(12) - 2 : pick(3));
+                    break;
+                case 1:
+                    value(pick(8) == 0 ? pick(20) - 2 : pick(3));
+                    break;
+                case 2:
+                    step(pick(8) == 0 ? pick(56) - 2 : pick(3));
+                    break;
+                case 3:
+                    tells(pick(8) == 0 ? pick(7) - 1 : pick(4));
+                    break;
+                case 4:
+                    alarm(pick(8) == 0 ? pick(4) - 1 : 0, pick(8) == 0 ? pick(6) - 1 : pick(3));
+                    break;
+                default:
+                    step(pick(2));
+                    break;
+            }
+        }
+    }
+
+    private void lookAtAll() {
+        for (int k = -1; k <= 8; k++) {
+            output(k);
+        }
+        for (int k = -1; k <= 16; k++) {
+            value(k);
+        }
+        for (int k = 0; k <= 12; k++) {
+            step(k);
         }
         for (int k = -1; k <= 4; k++) {
-            due.is(name + calls + " told(" + k + ")", x.told(k), m.told(k));
-            due.is(name + calls + " alarm(0, " + k + ")", x.alarm(0, k), m.alarm(0, k));
+            tells(k);
+            alarm(0, k);
         }
-        due.is(name + calls + " alarm(1, 0)", x.alarm(1, 0), m.alarm(1, 0));
+        tick(0);
     }
 
     private void act() {
@@ -118,52 +223,44 @@ public final class ModelTest {
             case 0:
                 start(pick(6) - 1);
                 break;
-            case 1: {
-                int p = pick(6) - 1;
-                is("swap(" + p + ")", x.swap(p), m.swap(p));
+            case 1:
+                swap(pick(6) - 1);
                 break;
-            }
             case 2:
-                is("save()", x.save(), m.save());
+                save();
                 break;
-            case 3: {
-                int s = pick(9) - 1;
-                is("back(" + s + ")", x.back(s) ? 1 : 0, m.back(s) ? 1 : 0);
+            case 3:
+                back(pick(9) - 1);
                 look();
                 break;
-            }
             case 4:
-            case 5: {
-                int k = pick(4) == 0 ? pick(18) - 1 : pick(3);
-                long v = number();
-                tell(k, pick(3) == 0 ? 1 : v);
+            case 5:
+                tell(pick(4) == 0 ? pick(18) - 1 : pick(3), pick(2) == 0 ? pick(2) : number());
                 break;
-            }
             case 6:
-                if (told < 260 && pick(3) == 0) {
-                    make(pick(2) == 0 ? phases() : statement(2 + pick(5)));
+                if (told < 200 && pick(3) == 0) {
+                    make(pick(2) == 0 ? phases() : statement(2 + pick(4)));
                 } else {
                     strange();
                 }
                 break;
-            case 7: {
-                int a = pick(6) - 1;
-                int b = pick(6) - 1;
-                is("shared(" + a + ", " + b + ")", x.shared(a, b) ? 1 : 0, m.shared(a, b) ? 1 : 0);
+            case 7:
+                shared(pick(6) - 1, pick(6) - 1);
                 break;
-            }
             case 8:
                 tick(pick(80));
+                look();
                 break;
             default:
                 tick(1 + pick(3));
+                look();
                 break;
         }
     }
 
     /** Calls that may be refused. */
     private void strange() {
-        switch (pick(4)) {
+        switch (pick(5)) {
             case 0:
                 leaf(pick(5) - 1, pick(20) - 2);
                 break;
@@ -172,6 +269,9 @@ public final class ModelTest {
                 break;
             case 2:
                 make(part());
+                break;
+            case 3:
+                table(pick(10));
                 break;
             default:
                 tick(pick(2) == 0 ? -1 : 10001);
@@ -249,7 +349,7 @@ public final class ModelTest {
                 return node(15, expression(1), statement(depth - 1), pick(2) == 0 ? -1 : statement(depth - 1));
             case 5:
             case 6:
-                return node(16, guard(), statement(depth - 1), statement(depth - 2));
+                return node(16, guard(), lasting(statement(depth - 1)), statement(depth - 2));
             case 7:
                 return node(17, pick(3) == 0 ? leaf(0, pick(70)) : expression(1), statement(depth - 1), -5);
             case 8:
@@ -263,6 +363,11 @@ public final class ModelTest {
             default:
                 return simple();
         }
+    }
+
+    /** Mostly goes on long enough for a limit around it to be looked at again. */
+    private int lasting(int inner) {
+        return pick(4) == 0 ? inner : node(14, inner, node(12, leaf(0, 3 + pick(30)), 0, 0), 0);
     }
 
     /** A name is bound, maybe to what calls it again, and called. */

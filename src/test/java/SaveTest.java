@@ -36,41 +36,44 @@ public final class SaveTest {
 
     /** Saved at each second of a run with all kinds of statements, put back, and the rest is the same. */
     private static void allOfARun() {
+        for (int from = 0; from < 20; from++) {
+            savedAt(from);
+        }
+    }
+
+    private static void savedAt(int from) {
         StepRows x = new StepRows();
         Teller t = new Teller(x);
         int body = t.row(t.count(0), t.ramp(1, t.add(t.val(0), t.num(20)), t.num(3)));
         int left = t.repeat(t.num(3), t.row(t.call(1), t.phase(t.pause(1))));
         int right = t.limit(t.less(t.val(0), t.num(2)), t.pause(50), t.row(t.out(2, t.num(9)), t.pause(4)));
         t.run(t.row(t.bind(1, body), t.phase(t.side(left, right)), t.bind(1, t.count(2)), t.pause(1), t.call(1)));
-        long[] want = new long[40];
-        for (int second = 0; second < 8; second++) {
-            due.is("save", x.save(), second);
-            x.tick(1);
-            want[second] = look(x);
-        }
-        for (int second = 8; second < 20; second++) {
+        x.tick(from);
+        due.is("save", x.save(), 0);
+        String saved = look(x);
+        String[] want = new String[20];
+        for (int second = from; second < 20; second++) {
             x.tick(1);
             want[second] = look(x);
         }
         due.is("it has ended", x.tick(0), 0);
-        for (int from = 7; from >= 0; from--) {
-            for (int round = 0; round < 2; round++) {
-                due.is("back", x.back(from), true);
-                due.is("told(0)", x.told(0), from);
-                for (int second = from; second < 20; second++) {
-                    x.tick(1);
-                    due.is("from " + from + " second " + second, look(x), want[second]);
-                }
-            }
+        due.is("back", x.back(0), true);
+        due.is("told(0)", x.told(0), Math.min(from, 14));
+        due.is("as it was saved at " + from, look(x).equals(saved), true);
+        for (int second = from; second < 20; second++) {
+            x.tick(1);
+            due.is("from " + from + " second " + second, look(x).equals(want[second]), true);
         }
     }
 
-    private static long look(StepRows x) {
-        long all = x.tick(0) * 7 + x.told(1) * 3 + x.told(0);
-        for (int k = 0; k < 8; k++) {
-            all = all * 31 + x.output(k) + 100 * x.value(k) + 1000 * (long) x.step(k);
+    /** Only what the program of savedAt changes: an object has 512 calls in all. */
+    private static String look(StepRows x) {
+        StringBuilder all = new StringBuilder();
+        all.append(x.tick(0)).append(' ').append(x.told(0)).append(' ').append(x.told(1));
+        for (int k = 1; k <= 2; k++) {
+            all.append(' ').append(x.output(k)).append(' ').append(x.step(k - 1));
         }
-        return all;
+        return all.append(' ').append(x.value(0)).append(' ').append(x.value(2)).toString();
     }
 
     private static void signalsStay() {
